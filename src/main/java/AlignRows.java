@@ -59,26 +59,34 @@ public final class AlignRows {
     }
 
     public int glue(int table, int k, int width, int stretch, int order) {
-        int refusal = refuseGlue(table, k);
+        Table found = find(table);
+        if (found == null) {
+            return UNKNOWN;
+        }
+        int refusal = found.refuseGlue(k);
         if (refusal != 0) {
             return refusal;
         }
         if (!isIn(width, -MAX_GLUE, MAX_GLUE) || !isIn(stretch, 0, MAX_GLUE) || !isIn(order, 0, MAX_ORDER)) {
             return OUTSIDE;
         }
-        tables[table].glues[k].setStretch(width, stretch, order);
+        found.glues[k].setStretch(width, stretch, order);
         return 1;
     }
 
     public int shrink(int table, int k, int amount, int order) {
-        int refusal = refuseGlue(table, k);
+        Table found = find(table);
+        if (found == null) {
+            return UNKNOWN;
+        }
+        int refusal = found.refuseGlue(k);
         if (refusal != 0) {
             return refusal;
         }
         if (!isIn(amount, 0, MAX_GLUE) || !isIn(order, 0, MAX_ORDER)) {
             return OUTSIDE;
         }
-        tables[table].glues[k].setShrink(amount, order);
+        found.glues[k].setShrink(amount, order);
         return 1;
     }
 
@@ -209,18 +217,6 @@ public final class AlignRows {
         return isIn(number, 0, tableCount - 1) ? tables[number] : null;
     }
 
-    /** Answers 0 if the table has that glue, or else why the call is refused. */
-    private int refuseGlue(int number, int k) {
-        Table found = find(number);
-        if (found == null) {
-            return UNKNOWN;
-        }
-        if (!found.preamble.laid) {
-            return NOT_NOW;
-        }
-        return isIn(k, 0, found.preamble.templates) ? 0 : UNKNOWN;
-    }
-
     private static boolean isIn(int number, int least, int greatest) {
         return number >= least && number <= greatest;
     }
@@ -306,7 +302,6 @@ public final class AlignRows {
             Arrays.fill(before, 0);
             Arrays.fill(behind, 0);
             templates = 1;
-            repeatFrom = NONE;
             marked = false;
             for (int i = 0; i < length; i++) {
                 if (!takeSign(i)) {
@@ -424,6 +419,14 @@ public final class AlignRows {
 
         boolean isAtRest() {
             return preamble.laid && !open;
+        }
+
+        /** Answers 0 if there is that glue, or else why a call for it is refused. */
+        int refuseGlue(int k) {
+            if (!preamble.laid) {
+                return NOT_NOW;
+            }
+            return isIn(k, 0, preamble.templates) ? 0 : UNKNOWN;
         }
 
         int openRow() {

@@ -1,0 +1,108 @@
+/** What the tests share: each writes the answers that are not due, and ends with exit code 1 if there was one. */
+final class Checks {
+    private static int wrong = 0;
+    private static int asked = 0;
+
+    private Checks() {
+    }
+
+    interface Call {
+        long answer();
+    }
+
+    static void due(String call, long want, long got) {
+        asked++;
+        if (want != got) {
+            wrong++;
+            System.out.println(call + " answered " + got + ", due is " + want);
+        }
+    }
+
+    static void holds(String claim, boolean is) {
+        due(claim, 1, is ? 1 : 0);
+    }
+
+    /** The call must throw ArrayIndexOutOfBoundsException, and no other exception. */
+    static void refuses(String call, Call made) {
+        asked++;
+        String got;
+        try {
+            got = "answered " + made.answer();
+        } catch (RuntimeException e) {
+            if (e.getClass() == ArrayIndexOutOfBoundsException.class) {
+                return;
+            }
+            got = "threw " + e;
+        }
+        wrong++;
+        System.out.println(call + " " + got + ", due is ArrayIndexOutOfBoundsException");
+    }
+
+    static void finish() {
+        System.out.println(asked + " answers, " + wrong + " not as due");
+        if (wrong != 0) {
+            System.exit(1);
+        }
+    }
+
+    /** Types a text of any length, and answers what the last call did. */
+    static int typeText(AlignRows x, int table, String text) {
+        int answer = x.type(table, 0, 0, 0);
+        for (int i = 0; i < text.length(); i += 4) {
+            answer = x.type(table, pack(text, i), 0, 0);
+        }
+        return answer;
+    }
+
+    static int pack(String text, int from) {
+        int packed = 0;
+        for (int i = from; i < from + 4; i++) {
+            packed = packed << 8 | (i < text.length() ? text.charAt(i) : 0);
+        }
+        return packed;
+    }
+
+    /** A new object whose table 0 has this preamble. */
+    static AlignRows laid(String preamble) {
+        AlignRows x = new AlignRows();
+        x.table();
+        typeText(x, 0, preamble);
+        if (x.lay(0) < 1) {
+            due("lay of " + preamble, 1, 0);
+        }
+        return x;
+    }
+
+    /** A row of table 0 with plain entries: widths and spans by turns. */
+    static void plainRow(AlignRows x, int... widthsAndSpans) {
+        x.row(0);
+        for (int i = 0; i < widthsAndSpans.length; i += 2) {
+            if (x.entry(0, widthsAndSpans[i], widthsAndSpans[i + 1], true) < 0) {
+                due("a plain entry", 0, 1);
+            }
+        }
+        x.end(0);
+    }
+
+    static void places(String what, AlignRows x, long... wanted) {
+        for (int c = 0; c < wanted.length; c++) {
+            due(what + ": place(0, " + c + ")", wanted[c], x.place(0, c));
+        }
+        int behind = wanted.length;
+        refuses(what + ": place(0, " + behind + ")", () -> x.place(0, behind));
+    }
+
+    static void widths(String what, AlignRows x, long... wanted) {
+        for (int c = 0; c < wanted.length; c++) {
+            due(what + ": width(0, " + c + ")", wanted[c], x.width(0, c));
+        }
+        due(what + ": width(0, " + wanted.length + ")", -1, x.width(0, wanted.length));
+    }
+
+    /** Count 6 to 11: columns, natural width, excess, runs, order, what is missing. */
+    static void lastRun(String what, AlignRows x, long... wanted) {
+        for (int i = 0; i < 6; i++) {
+            due(what + ": count(0, " + (6 + i) + ")", wanted[i], x.count(0, 6 + i));
+        }
+    }
+}
