@@ -1,7 +1,14 @@
+import java.io.IOException;
+import java.io.UncheckedIOException;
+import java.nio.file.Files;
+import java.nio.file.Path;
+
 /** What the tests share: each writes the answers that are not due, and ends with exit code 1 if there was one. */
 final class Checks {
     private static int wrong = 0;
     private static int asked = 0;
+    private static String document = "";
+    private static String title = "";
 
     private Checks() {
     }
@@ -10,11 +17,37 @@ final class Checks {
         long answer();
     }
 
+    /** What is asked from here on belongs to these words, which the document must have. */
+    static void sentence(String words) {
+        title = "";
+        holds("the document has the words: " + words, document().contains(words));
+        title = "[" + words + "] ";
+    }
+
+    private static String document() {
+        if (document.isEmpty()) {
+            try {
+                document = Files.readString(Path.of("../shared/DOC.md")).replaceAll("\\s+", " ");
+            } catch (IOException e) {
+                throw new UncheckedIOException(e);
+            }
+        }
+        return document;
+    }
+
     static void due(String call, long want, long got) {
         asked++;
         if (want != got) {
             wrong++;
-            System.out.println(call + " answered " + got + ", due is " + want);
+            System.out.println(title + call + " answered " + got + ", due is " + want);
+        }
+    }
+
+    static void same(String what, String want, String got) {
+        asked++;
+        if (!want.equals(got)) {
+            wrong++;
+            System.out.println(title + what + " is\n  " + got + "\ndue is\n  " + want);
         }
     }
 
@@ -29,13 +62,19 @@ final class Checks {
         try {
             got = "answered " + made.answer();
         } catch (RuntimeException e) {
-            if (e.getClass() == ArrayIndexOutOfBoundsException.class) {
+            if (isThrownOutright(e)) {
                 return;
             }
             got = "threw " + e;
         }
         wrong++;
-        System.out.println(call + " " + got + ", due is ArrayIndexOutOfBoundsException");
+        System.out.println(title + call + " " + got + ", due is ArrayIndexOutOfBoundsException");
+    }
+
+    /** An index that is used without a look at it throws with Java's own message, which begins with Index. */
+    static boolean isThrownOutright(RuntimeException e) {
+        return e.getClass() == ArrayIndexOutOfBoundsException.class
+                && !String.valueOf(e.getMessage()).startsWith("Index");
     }
 
     static void finish() {
@@ -82,6 +121,20 @@ final class Checks {
             }
         }
         x.end(0);
+    }
+
+    /** Table 0 has two columns and an open row; table 1 has one column of 70, and was run as told. */
+    static AlignRows nestable(int way, int by) {
+        AlignRows x = laid("z#z&z#z");
+        x.table();
+        x.type(1, '#', 0, 0);
+        x.lay(1);
+        x.row(1);
+        x.entry(1, 70, 1, true);
+        x.end(1);
+        x.row(0);
+        x.run(1, way, by);
+        return x;
     }
 
     static void places(String what, AlignRows x, long... wanted) {

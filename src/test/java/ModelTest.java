@@ -7,6 +7,8 @@ import java.util.regex.Pattern;
 
 /** Many runs of calls by chance (always the same ones), against a second and slower telling of the document. */
 public final class ModelTest {
+    private static final int SEEDS = 15000;
+    private static final int LAST_CALL = 512;
     private static final String TEMPLATE = "[a-z]*#[a-z]*";
     private static final Pattern PREAMBLE = Pattern.compile(preamblePattern());
 
@@ -41,6 +43,7 @@ public final class ModelTest {
     private final AlignRows real = new AlignRows();
     private final Random chance;
     private final String title;
+    private int calls = 0;
 
     private ModelTest(int seed) {
         chance = new Random(seed);
@@ -48,10 +51,25 @@ public final class ModelTest {
     }
 
     public static void main(String[] args) {
-        for (int seed = 0; seed < 4000; seed++) {
+        for (int seed = 0; seed < SEEDS; seed++) {
             new ModelTest(seed).play();
         }
         Checks.finish();
+    }
+
+    /** What is answered behind the last call that the document speaks of is free, so it is not compared. */
+    private void due(String call, long want, long got) {
+        calls++;
+        if (calls <= LAST_CALL) {
+            Checks.due(title + call, want, got);
+        }
+    }
+
+    private void refuses(String call, Checks.Call made) {
+        calls++;
+        if (calls <= LAST_CALL) {
+            Checks.refuses(title + call, made);
+        }
     }
 
     private static String preamblePattern() {
@@ -84,12 +102,13 @@ public final class ModelTest {
         int tableCount = 1 + below(3);
         for (int i = 0; i < tableCount; i++) {
             tables.add(new Table());
-            Checks.due(title + "table", i, real.table());
+            due("table", i, real.table());
         }
-        for (int call = 0; call < 160; call++) {
+        int steps = 40 + below(300);
+        while (calls < steps) {
             step();
         }
-        for (int t = -1; t <= tables.size(); t++) {
+        for (int t = -1; t <= tables.size() && calls < LAST_CALL; t++) {
             look(t);
         }
     }
@@ -108,13 +127,13 @@ public final class ModelTest {
         if (kind < 9) {
             entry(t);
         } else if (kind < 12) {
-            Checks.due(title + "row", row(table), real.row(t));
+            due("row", row(table), real.row(t));
         } else if (kind < 14) {
-            Checks.due(title + "end", end(table), real.end(t));
+            due("end", end(table), real.end(t));
         } else if (kind < 17) {
             run(t);
         } else if (kind == 17) {
-            Checks.due(title + "between", between(table), real.between(t));
+            due("between", between(table), real.between(t));
         } else if (kind < 20) {
             glue(t);
         } else if (kind < 22) {
@@ -126,7 +145,7 @@ public final class ModelTest {
 
     private void layOne(int t) {
         if (below(3) == 0) {
-            Checks.due(title + "lay", lay(table(t)), real.lay(t));
+            due("lay", lay(table(t)), real.lay(t));
             return;
         }
         StringBuilder signs = new StringBuilder();
@@ -143,7 +162,7 @@ public final class ModelTest {
             signs.append("A`{!@\u0080\u00ff".charAt(below(7)));
         }
         String text = signs.toString();
-        Checks.due(title + "type " + text, type(table(t), text),
+        due("type " + text, type(table(t), text),
                 real.type(t, Checks.pack(text, 0), Checks.pack(text, 4), Checks.pack(text, 8)));
     }
 
@@ -166,11 +185,8 @@ public final class ModelTest {
             return -3;
         }
         String tape = table.tape;
-        if (!PREAMBLE.matcher(tape).matches()) {
-            int wrong = 0;
-            while (wrong < tape.length() && mayGoOn(tape.substring(0, wrong + 1))) {
-                wrong++;
-            }
+        int wrong = wrongPlace(tape);
+        if (wrong >= 0) {
             table.tape = "";
             return -10 - wrong;
         }
@@ -186,6 +202,18 @@ public final class ModelTest {
             table.glues.add(new Glue());
         }
         return table.templates.length;
+    }
+
+    /** -1 if the tape is a preamble. */
+    static int wrongPlace(String tape) {
+        if (PREAMBLE.matcher(tape).matches()) {
+            return -1;
+        }
+        int wrong = 0;
+        while (wrong < tape.length() && mayGoOn(tape.substring(0, wrong + 1))) {
+            wrong++;
+        }
+        return wrong;
     }
 
     private static boolean mayGoOn(String start) {
@@ -209,7 +237,7 @@ public final class ModelTest {
             glue.stretch = stretch;
             glue.stretchOrder = order;
         }
-        Checks.due(title + "glue", due, real.glue(t, k, width, stretch, order));
+        due("glue", due, real.glue(t, k, width, stretch, order));
     }
 
     private void shrink(int t) {
@@ -223,7 +251,7 @@ public final class ModelTest {
             glue.shrink = amount;
             glue.shrinkOrder = order;
         }
-        Checks.due(title + "shrink", due, real.shrink(t, k, amount, order));
+        due("shrink", due, real.shrink(t, k, amount, order));
     }
 
     private static long refuseGlue(Table table, int k) {
@@ -284,7 +312,7 @@ public final class ModelTest {
         Table table = table(t);
         long due = table == null ? -1 : !table.open ? -3
                 : w < 0 || w > 100000 || span < 1 || span > 8 ? -2 : put(table, w, span, plain);
-        Checks.due(title + "entry", due, real.entry(t, w, span, plain));
+        due("entry", due, real.entry(t, w, span, plain));
     }
 
     private void nest(int t) {
@@ -301,7 +329,7 @@ public final class ModelTest {
         } else {
             due = put(table, (int) (other.natural + other.excess), span, true);
         }
-        Checks.due(title + "nest", due, real.nest(t, o, span));
+        due("nest", due, real.nest(t, o, span));
     }
 
     private static int templateOf(Table table, int column) {
@@ -350,8 +378,12 @@ public final class ModelTest {
         } else {
             due = set(table, way, by);
         }
-        Checks.due(title + "run", due, real.run(t, way, by));
-        look(t);
+        due("run", due, real.run(t, way, by));
+        if (table != null && below(5) != 0) {
+            lookAtRun(t, table);
+        } else {
+            look(t);
+        }
     }
 
     private static long set(Table table, int way, int by) {
@@ -426,36 +458,43 @@ public final class ModelTest {
     private void look(int t) {
         Table table = table(t);
         if (table == null) {
-            Checks.due(title + "width", -1, real.width(t, 0));
-            Checks.refuses(title + "count", () -> real.count(t, 9));
-            Checks.refuses(title + "item", () -> real.item(t, 0));
+            due("width", -1, real.width(t, 0));
+            refuses("count", () -> real.count(t, 9));
+            refuses("item", () -> real.item(t, 0));
             return;
         }
         int entries = table.rows.stream().mapToInt(List::size).sum();
         long[] counts = {table.templates.length, table.repeat, table.rows.size(), entries, table.open ? 1 : 0,
-            table.tape.length(), table.widths.length, table.natural, table.excess, table.runs, table.order,
-            table.missing};
+            table.tape.length()};
         for (int what = 0; what < counts.length; what++) {
-            Checks.due(title + "count " + what, counts[what], real.count(t, what));
+            due("count " + what, counts[what], real.count(t, what));
         }
         for (int i = 0; i < table.items.size(); i++) {
-            Checks.due(title + "item " + i, table.items.get(i), real.item(t, i));
+            due("item " + i, table.items.get(i), real.item(t, i));
         }
-        Checks.refuses(title + "item", () -> real.item(t, table.items.size()));
-        lookAtColumns(t, table);
+        refuses("item", () -> real.item(t, table.items.size()));
+        lookAtRun(t, table);
         lookAtEntries(t, table);
+    }
+
+    private void lookAtRun(int t, Table table) {
+        long[] counts = {table.widths.length, table.natural, table.excess, table.runs, table.order, table.missing};
+        for (int i = 0; i < counts.length; i++) {
+            due("count " + (6 + i), counts[i], real.count(t, 6 + i));
+        }
+        lookAtColumns(t, table);
     }
 
     private void lookAtColumns(int t, Table table) {
         int columns = table.widths.length;
         for (int c = 0; c < columns; c++) {
-            Checks.due(title + "width " + c, table.widths[c], real.width(t, c));
-            Checks.due(title + "isVoid " + c, table.voids[c] ? 1 : 0, real.isVoid(t, c) ? 1 : 0);
-            Checks.due(title + "place " + c, table.places[c], real.place(t, c));
+            due("width " + c, table.widths[c], real.width(t, c));
+            due("isVoid " + c, table.voids[c] ? 1 : 0, real.isVoid(t, c) ? 1 : 0);
+            due("place " + c, table.places[c], real.place(t, c));
         }
-        Checks.due(title + "width of none", -1, real.width(t, columns));
-        Checks.due(title + "isVoid of none", 0, real.isVoid(t, columns) ? 1 : 0);
-        Checks.refuses(title + "place of none", () -> real.place(t, columns));
+        due("width of none", -1, real.width(t, columns));
+        due("isVoid of none", 0, real.isVoid(t, columns) ? 1 : 0);
+        refuses("place of none", () -> real.place(t, columns));
     }
 
     private void lookAtEntries(int t, Table table) {
@@ -470,11 +509,11 @@ public final class ModelTest {
                 long end = gone ? table.places[last] + table.widths[last] : 0;
                 long[] wanted = {entry.width, entry.first, entry.span, place, end - place};
                 for (int what = 0; what < 5; what++) {
-                    Checks.due(title + "at " + r + ", " + i + ", " + what, wanted[what], real.at(t, r, i, what));
+                    due("at " + r + ", " + i + ", " + what, wanted[what], real.at(t, r, i, what));
                 }
             }
-            Checks.refuses(title + "at none", () -> real.at(t, number, row.size(), 0));
+            refuses("at none", () -> real.at(t, number, row.size(), 0));
         }
-        Checks.refuses(title + "at no row", () -> real.at(t, table.rows.size(), 0, 0));
+        refuses("at no row", () -> real.at(t, table.rows.size(), 0, 0));
     }
 }

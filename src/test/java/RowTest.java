@@ -199,22 +199,8 @@ public final class RowTest {
         Checks.refuses("item 40", () -> x.item(0, 40));
     }
 
-    /** Table 1 is set to a width, and stands then in table 0, whose row is open. */
-    private static AlignRows nestable(int way, int by) {
-        AlignRows x = Checks.laid("z#z&z#z");
-        x.table();
-        Checks.typeText(x, 1, "#");
-        x.lay(1);
-        x.row(1);
-        x.entry(1, 70, 1, true);
-        x.end(1);
-        x.row(0);
-        x.run(1, way, by);
-        return x;
-    }
-
     private static void nesting() {
-        AlignRows x = nestable(0, 0);
+        AlignRows x = Checks.nestable(0, 0);
         Checks.due("nest", 0, x.nest(0, 1, 1));
         Checks.due("as wide as that one, and plain", 70, x.at(0, 0, 0, 0));
         x.run(1, 2, 30);
@@ -225,11 +211,11 @@ public final class RowTest {
         Checks.due("end", 2, x.end(0));
         x.run(0, 0, 0);
         Checks.widths("nested", x, 70, 100);
-        AlignRows y = nestable(1, 0);
+        AlignRows y = Checks.nestable(1, 0);
         Checks.due("of width 0", 0, y.nest(0, 1, 2));
         Checks.due("width 0", 0, y.at(0, 0, 0, 0));
         Checks.due("span 2", 2, y.at(0, 0, 0, 2));
-        AlignRows z = nestable(1, 100000);
+        AlignRows z = Checks.nestable(1, 100000);
         Checks.due("of width 100000", 0, z.nest(0, 1, 1));
         Checks.due("width 100000", 100000, z.at(0, 0, 0, 0));
         x.row(1);
@@ -239,7 +225,7 @@ public final class RowTest {
     }
 
     private static void nestingRefused() {
-        AlignRows x = nestable(0, 0);
+        AlignRows x = Checks.nestable(0, 0);
         Checks.due("no such table", -1, x.nest(2, 1, 1));
         Checks.due("no such other", -1, x.nest(0, 2, 1));
         Checks.due("other -1", -1, x.nest(0, -1, 1));
@@ -256,8 +242,8 @@ public final class RowTest {
         x.run(0, 0, 0);
         x.row(0);
         Checks.due("itself, though run", -3, x.nest(0, 0, 1));
-        Checks.due("below 0", -3, nestable(1, -1).nest(0, 1, 0));
-        Checks.due("above 100000", -3, nestable(1, 100001).nest(0, 1, 3));
+        Checks.due("below 0", -3, Checks.nestable(1, -1).nest(0, 1, 0));
+        Checks.due("above 100000", -3, Checks.nestable(1, 100001).nest(0, 1, 3));
     }
 
     private static void boxes() {
