@@ -24,7 +24,8 @@ final class Checks {
         title = "[" + words + "] ";
     }
 
-    private static String document() {
+    /** The document in one line. */
+    static String document() {
         if (document.isEmpty()) {
             try {
                 document = Files.readString(Path.of("../shared/DOC.md")).replaceAll("\\s+", " ");

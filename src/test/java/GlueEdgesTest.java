@@ -15,6 +15,7 @@ public final class GlueEdgesTest {
         greatestOrder();
         sumsThatAreZero();
         noExcess();
+        onlyThoseOfTheOrder();
         stretchRoundedDown();
         shrinkRoundedDown();
         shrinksOfOrderZero();
@@ -50,7 +51,7 @@ public final class GlueEdgesTest {
 
     /** Glue k is 2 to the power of k wide, so that each sum tells its glues. */
     private static void glueNumbers() {
-        Checks.sentence("number 0 is before column 0, k + 1 behind that of template k"
+        Checks.sentence("GLUES: number 0 is before column 0, k + 1 behind that of template k"
                 + " (behind each column that is as it).");
         for (int n = 1; n <= 12; n++) {
             for (int r = -1; r < n; r++) {
@@ -287,8 +288,23 @@ public final class GlueEdgesTest {
         }
     }
 
+    private static void onlyThoseOfTheOrder() {
+        Checks.sentence("with s the sum of those of the order up to it,");
+        int[] amounts = {1, 1000, 2, 3};
+        int[] orders = {2, 1, 2, 2};
+        AlignRows x = stretching(amounts, orders);
+        AlignRows y = shrinking(amounts, orders);
+        for (int excess = 1; excess <= 20; excess++) {
+            x.run(0, 2, excess);
+            Checks.places("wider by " + excess, x, excess / 6, 10 + excess / 6, 20 + 3 * excess / 6);
+            y.run(0, 2, -excess);
+            Checks.places("narrower by " + excess, y, -(excess / 6), 10 - excess / 6, 20 - 3 * excess / 6);
+        }
+    }
+
     private static void stretchRoundedDown() {
-        Checks.sentence("all glues up to it have together the excess times s over the whole sum more, rounded down");
+        Checks.sentence("Glue by glue, with s the sum of those of the order up to it, all glues up to it have together"
+                + " the excess times s over the whole sum more, rounded down");
         int[] stretches = {1, 2, 3, 5};
         AlignRows x = stretching(stretches, NO_ORDERS);
         for (int excess = 1; excess <= 34; excess++) {

@@ -104,7 +104,8 @@ public final class RowEdgesTest {
     }
 
     private static void textOfEntries() {
-        Checks.sentence("with what is before in its first column and behind in its last one");
+        Checks.sentence("An entry is as wide as told, with what is before in its first column"
+                + " and behind in its last one, but for PLAIN ones.");
         // columns 0 to 7 are as templates 0, 1, 2, 3, 2, 3, 2, 3
         int[] before = {1, 3, 5, 7};
         int[] behind = {2, 4, 6, 8, 6, 8, 6, 8};

@@ -82,7 +82,7 @@ public final class RunEdgesTest {
     }
 
     private static void greatestNeed() {
-        Checks.sentence("a column's WIDTH is the greatest need over it alone");
+        Checks.sentence("Column by column: a column's WIDTH is the greatest need over it alone;");
         AlignRows x = Checks.laid("#&#");
         Checks.plainRow(x, 5, 1, 100000, 1);
         Checks.plainRow(x, 7, 1, 0, 1);
@@ -190,7 +190,8 @@ public final class RunEdgesTest {
     }
 
     private static void naturalWidth() {
-        Checks.sentence("all widths, and the widths of its glues (0, and one behind each column).");
+        Checks.sentence("THE NATURAL WIDTH of the table: all widths, and the widths of its glues"
+                + " (0, and one behind each column).");
         AlignRows x = Checks.laid("#&#");
         x.glue(0, 0, 1, 0, 0);
         x.glue(0, 1, 20, 0, 0);
@@ -291,7 +292,7 @@ public final class RunEdgesTest {
     }
 
     private static void runRange() {
-        Checks.sentence("1 to a width (-1000000 .. 1000000), 2 natural and so much (likewise)");
+        Checks.sentence("A run: way = 0 natural, 1 to a width (-1000000 .. 1000000), 2 natural and so much (likewise)");
         AlignRows x = Checks.laid("#");
         Checks.due("way -1", -2, x.run(0, -1, 0));
         Checks.due("way 3", -2, x.run(0, 3, 0));

@@ -156,7 +156,8 @@ public final class TapeEdgesTest {
 
     /** #& ends too soon, but &# is a preamble: so the order of any two places shows. */
     private static void orderOfSigns() {
-        Checks.sentence("those of the three numbers that are not 0, the highest byte first: its length.");
+        Checks.sentence("Characters behind the tape, those of the three numbers that are not 0, the highest byte first:"
+                + " its length.");
         for (int first = 0; first < 12; first++) {
             for (int second = first + 1; second < 12; second++) {
                 int[] numbers = new int[3];
@@ -255,7 +256,7 @@ public final class TapeEdgesTest {
     }
 
     private static void beginnings() {
-        Checks.sentence("perhaps &, then TEMPLATES, each but the first with & before it");
+        Checks.sentence("its PREAMBLE is: perhaps &, then TEMPLATES, each but the first with & before it,");
         lays("a#", 1, -1);
         lays("&a#", 1, 0);
         lays("a#&b#", 2, -1);
@@ -300,7 +301,8 @@ public final class TapeEdgesTest {
     }
 
     private static void letters() {
-        Checks.sentence("letters a .. z, then one #, then letters, each as wide as its place from 1 to 26");
+        Checks.sentence("A TEMPLATE: letters a .. z, then one #, then letters, each as wide as its place from 1 to 26:"
+                + " what is BEFORE and BEHIND an entry.");
         for (int place = 1; place <= 26; place++) {
             char letter = (char) ('a' + place - 1);
             AlignRows x = Checks.laid(letter + "#&#" + letter + "&#");
@@ -410,8 +412,8 @@ public final class TapeEdgesTest {
     }
 
     private static void repeatedColumns() {
-        Checks.sentence("if these repeat from r on, of n, column c, from n on, is as r + (c - r) modulo (n - r),"
-                + " up to 24 columns.");
+        Checks.sentence("COLUMNS 0, 1, .. are as the templates; if these repeat from r on, of n, column c, from n on,"
+                + " is as r + (c - r) modulo (n - r), up to 24 columns.");
         for (int n = 1; n <= 12; n++) {
             for (int r = 0; r < n; r++) {
                 columnsAre(n, r, 24);
